@@ -688,7 +688,7 @@ public final class LeaversFloor {
 
         private int waitingBy(int steps) {
             int bits = left & ~(absences[rows - 1] | street[rows - 1]);
-            for (int l = 0; l < house.leavers; l++) {
+            for (int l = 0; l < house.leavers && bits != 0; l++) {
                 if (house.leftAt[l] > steps) {
                     bits &= ~(1 << l);
                 }

@@ -80,6 +80,13 @@ public final class PromiseTest {
         due(3, "wipe -1", x.wipe(-1), BAD);
         due(3, "wipe 3", x.wipe(3), BAD);
         due(3, "riders", x.count(0), 0);
+        LeaversFloor y = made("503", "000", "03");
+        due(3, "a rider", y.count(0), 1);
+        y.wipe(0);
+        due(3, "no rider any more", y.count(0), 0);
+        due(3, "stops", y.ends(), 5);
+        y.wipe(2);
+        due(3, "no stops any more", y.ends(), 0);
         due(3, "typed anew", x.type(0, 57), 1);
     }
 
@@ -155,6 +162,8 @@ public final class PromiseTest {
                 due(7, "leaver", x.leaver(i, what), leavers[i][what]);
             }
         }
+        due(6, "asked first", made("503", "127", "").rider(0, 0), 5);
+        due(7, "asked first", made("503", "127", "").leaver(0, 0), 12);
         due(6, "rider 2", x.rider(2, 0), BAD);
         due(6, "rider -1", x.rider(-1, 0), BAD);
         due(6, "what 3", x.rider(0, 3), BAD);
@@ -351,6 +360,9 @@ public final class PromiseTest {
         moreIs(made("503;502", "", "0"), "the least row", 2, 2, 3);
         moreIs(made("503;502;501", "", "0"), "three", NONE, NONE, NONE);
         moreIs(made("912", "", "00000000000000000000"), "behind twenty", 2, 1, 2);
+        LeaversFloor y = made("955;171", "000", "90909090909090909090");
+        y.set(1, 3);
+        moreIs(y, "behind twenty, a halt at HALF on each way", 2, 7, 1);
         LeaversFloor x = small();
         moreIs(x, "as it is", 1, 2, NONE);
         due(16, "i 2", x.more(2), BAD);
