@@ -176,8 +176,30 @@ public final class ChangesTest {
         }
     }
 
+    /** 512 calls in all: 12 make it, 498 leave it as it was, two ask. */
+    private static void upToTheLastCall() {
+        String[] house = {"503;202", "000", "03"};
+        long due = made(house).digest();
+        LeaversFloor x = made(house);
+        x.type(2, '9');
+        x.undo(2);
+        for (int round = 0; round < 62; round++) {
+            x.type(round % 3, '0' + round % 10);
+            x.undo(round % 3);
+            x.set(0, 4);
+            x.sheet(round % 4, round % 3, round % 61);
+            x.write(round % 4, round % 4);
+            x.seen(round, round);
+            x.forget();
+            x.lose(round % 4);
+        }
+        due("the 511th call", x.count(0), 2);
+        due("the 512th call", x.digest(), due);
+    }
+
     public static void main(String[] args) {
         List<Question> questions = questions();
+        upToTheLastCall();
         askedFirst(questions);
         askedBehindAChange(questions, changes());
         System.out.println(asked + " answers behind changes, " + wrong + " wrong");

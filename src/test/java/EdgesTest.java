@@ -2,7 +2,8 @@ import java.math.BigInteger;
 
 /**
  * The boundary cases that the document names, in its order. Each test begins with the document's own
- * sentence; its answers are worked out by hand from that sentence. RefusalsTest has the refused calls.
+ * words, or with what follows from them; its answers are worked out by hand from these. RefusalsTest
+ * has the refused calls.
  */
 public final class EdgesTest {
     private static final int NONE = -1, BAD = -2, NOT = -3, FULL = -4;

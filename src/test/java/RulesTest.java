@@ -8,7 +8,9 @@ import java.nio.file.Files;
 import java.nio.file.Path;
 import java.util.ArrayList;
 import java.util.List;
+import java.util.Map;
 import java.util.Set;
+import java.util.TreeMap;
 import java.util.TreeSet;
 import java.util.regex.Matcher;
 import java.util.regex.Pattern;
@@ -106,6 +108,49 @@ public final class RulesTest {
         }
     }
 
+    /** What each method calls, by names; classes inside that share a name are taken together. */
+    private static Map<String, Set<String>> callsByName(String code) {
+        Map<String, Set<String>> calls = new TreeMap<>();
+        Pattern head = Pattern.compile("(    |        )(?:\\w+(?:\\[\\])? )*(\\w+)\\(.*\\) \\{");
+        Pattern call = Pattern.compile("\\b(\\w+)\\(");
+        Set<String> open = null;
+        for (String line : code.split("\n")) {
+            Matcher m = head.matcher(line);
+            if (m.matches() && !Set.of("if", "for", "while", "switch").contains(m.group(2))) {
+                open = calls.computeIfAbsent(m.group(2), name -> new TreeSet<>());
+            } else if (open != null) {
+                Matcher inside = call.matcher(line);
+                while (inside.find()) {
+                    open.add(inside.group(1));
+                }
+            }
+        }
+        return calls;
+    }
+
+    private static int deep(Map<String, Set<String>> calls, String name, int above) {
+        int most = above + 1;
+        if (most > 20) {
+            return most;
+        }
+        for (String next : calls.get(name)) {
+            if (calls.containsKey(next)) {
+                most = Math.max(most, deep(calls, next, above + 1));
+            }
+        }
+        return most;
+    }
+
+    private static void depth() throws IOException {
+        String text = Files.readString(Path.of("src/main/java/LeaversFloor.java"));
+        Map<String, Set<String>> calls = callsByName(text.replaceAll("//[^\n]*", ""));
+        claim(calls.size() > 80, "the methods are found: " + calls.size());
+        for (String name : calls.keySet()) {
+            int deep = deep(calls, name, 0);
+            claim(deep <= 8, name + " goes at most eight deep, not " + deep);
+        }
+    }
+
     private static long made() {
         com.sun.management.ThreadMXBean bean = (com.sun.management.ThreadMXBean) ManagementFactory.getThreadMXBean();
         return bean.getCurrentThreadAllocatedBytes();
@@ -191,6 +236,7 @@ public final class RulesTest {
     public static void main(String[] args) throws IOException {
         face();
         source();
+        depth();
         makesNothing();
         anyArguments();
         System.out.println("rules: " + wrong + " not kept");
