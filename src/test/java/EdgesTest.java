@@ -920,6 +920,12 @@ public final class EdgesTest {
             due("rider " + r + " below", x.maybe(4, r, behind, 1), r < 4 ? 1 : 4);
             due("rider " + r + " surely", x.maybe(4, r, behind + 1, 1), 1);
         }
+        x = made(times("105;", 7) + "109", "000", "05");
+        for (int r = 0; r < 8; r++) {
+            due("rider " + r + " of eight, above", x.maybe(4, r, 7, 0), r < 7 ? 3 : 0);
+            due("rider " + r + " of eight, below", x.maybe(4, r, 7, 1), r < 7 ? 4 : 1);
+            due("rider " + r + " of eight, in the end", x.maybe(4, r, 255, 0), r < 7 ? 1 : 0);
+        }
         says("the chance, by all of twenty STOPS");
         for (int n = 1; n < 20; n++) {
             maybeIs(made("104", "000", "0" + times("0", n - 1) + "4" + times("0", 19 - n)), 8, n + 4, 0, 1);
