@@ -858,6 +858,12 @@ public final class EdgesTest {
         due("behind 17", x.lift(17, 1), 6);
         due("three and one are more than two and two", x.weigh(), 17);
         says("WEIGH: of eight LEAVERS seven alike are less than eight");
+        // Without 0: 2 behind 5, 5 behind 11; without 1: 0 behind 5, 3 behind 11. Nothing else is weighed with them.
+        due("one weighs nothing", made("144;444;398", "000;001", "9").weigh(), 5);
+        x = made("144;444;398", "000;001;002", "9");
+        due("three: 3, 1 and 2 behind 5", x.weigh(), 5);
+        say(x, 1, "000;001");
+        due("the third of them is gone", x.weigh(), 5);
         due("one of eight", made("255;455", times("000;", 7) + "001", "59").weigh(), 5);
         due("the first of eight", made("255;455", "001" + times(";000", 7), "59").weigh(), 5);
         due("no one of eight", made("255", "000" + times(";000", 7), "59").weigh(), 0);
